@@ -439,7 +439,6 @@ public final class BasicMachine {
             }
             for (int k = 0; k < BROKEN_DIGITS; k++) {
                 boolean isMore = isBroken && isDigit(next());
-                isBroken = isMore;
                 value = value * 10 + (isMore ? next() - '0' : 0);
                 place += isMore ? 1 : 0;
             }

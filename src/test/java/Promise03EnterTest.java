@@ -24,6 +24,15 @@ public final class Promise03EnterTest {
                 "> 15 PRINT -> IllegalArgumentException", "run -> 24", "printed 0 -> 98", "printed 1 -> 1",
                 "printed 23 -> 99", "> 120 -> 23", "> 5 PRINT 97 -> 24", "> 999 END -> IllegalStateException",
                 "run -> 24", "printed 0 -> 97", "printed 1 -> 98", "printed 11 -> 10", "printed 12 -> 12"));
+        check.play("nothing is left of lines before, right or wrong",
+                "> 10 PRINT ((((((1/0+ -> IllegalArgumentException", "> 10 PRINT ((((((1)))))) -> 1",
+                "> 10 ON 2 GOTO 5,6,7, -> IllegalArgumentException", "> 20 ON 2 GOTO 30,40 -> 2",
+                "> 30 END -> 3", "> 40 PRINT 4 -> 4", "run -> 3", "printed 0 -> 1", "printed 1 -> 4", "wipe -> 4",
+                "> 50 DATA 3,4 -> 1", "> 10 FOR I=2 TO 1 STEP -1 -> 2", "> 30 LET P(1,2)=A -> 3", "> 10 READ A -> 3",
+                "> 30 FOR I=1 TO 2 -> 3", "> 40 NEXT I -> 4", "run -> 5", "variable 0 -> 3", "variable 8 -> 3", "count 6 -> 1",
+                "> 30 PRINT A+1 -> 4", "> 40 -> 3", "> 5 DIM Q(2,3) -> 4", "> 40 DATA 9 -> 5", "run -> 5",
+                "variable 0 -> 9", "printed 0 -> 10", "count 6 -> 2", "element 1 2 3 -> 0",
+                "element 1 3 2 -> IndexOutOfBoundsException");
         check.play("blanks mean nothing",
                 ">   1 0 P R I N T 1 2 + 3  -> 1", "run -> 1", "printed 0 -> 15", "at -> 10", ">  1 0  -> 0");
 

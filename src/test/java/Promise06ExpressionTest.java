@@ -97,6 +97,7 @@ public final class Promise06ExpressionTest {
         check.value("1/0+FNA(1)", ARITHMETIC);
         String lines = "10 DIM P(2,3)\n20 LET P(2,3)=5\n30 LET P(1,2)=2\n";
         check.program("cut to whole numbers", lines + "40 PRINT P(2.999,3.999)+P(1.5,P(1,2)+0.9)", "4", "printed 0 -> 7");
+        check.program("the first element", lines + "40 LET P(1,1)=8\n50 PRINT P(1,1)", "5", "printed 0 -> 8");
         check.program("row 0", lines + "40 PRINT P(0.999,1)", "IndexOutOfBoundsException");
         check.program("row -0.5 is 0", lines + "40 PRINT P(-0.5,1)", "IndexOutOfBoundsException");
         check.program("row 3", lines + "40 PRINT P(3,1)", "IndexOutOfBoundsException");

@@ -82,8 +82,23 @@ public final class Promise06FlowTest {
                 "> 50 -> 4", "run -> 4", "count 5 -> 0");
     }
 
+    /** A RUN that throws within an expression leaves nothing that a later RUN could stumble over. */
+    private static void manyThrows(Check check) {
+        String[] steps = new String[405];
+        steps[0] = "> 10 PRINT 1+2*3^(4/0) -> 1";
+        for (int k = 1; k <= 400; k++) {
+            steps[k] = "run -> ArithmeticException";
+        }
+        steps[401] = "count 7 -> 400";
+        steps[402] = "> 10 PRINT 1+2*3^(4/2) -> 1";
+        steps[403] = "run -> 1";
+        steps[404] = "printed 0 -> 19";
+        check.play("many RUNS that throw", steps);
+    }
+
     public static void main(String[] args) {
         Check check = new Check();
+        manyThrows(check);
         jumps(check);
         ifs(check);
         ons(check);

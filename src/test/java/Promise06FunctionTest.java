@@ -22,6 +22,8 @@ public final class Promise06FunctionTest {
                 "printed 0 -> 6", "variable 23 -> 0");
         check.program("a 4th under way", "10 DEF FN A(X)=FN B(X+1)\n20 DEF FN B(X)=FN C(X+1)\n30 DEF FN C(X)=FN A(X)\n40 PRINT FN A(1)",
                 "IllegalStateException", "variable 23 -> 0");
+        check.program("the 3rd still throws its own", "10 DEF FN A(X)=1/(3-X)+FNA(X+1)\n20 PRINT FNA(1)", "ArithmeticException");
+        check.program("the 4th does not begin", "10 DEF FN A(X)=1/(3-X)+FNA(X+1)\n20 PRINT FNA(0)", "IllegalStateException");
         check.program("a FN of itself", "10 DEF FN A(X)=FN A(X)\n20 PRINT FN A(1)", "IllegalStateException");
         check.program("a 4th is tested behind its argument", "10 DEF FN A(X)=FN B(X)\n20 DEF FN B(X)=FN C(X)\n30 DEF FN C(X)=FN A(1/0)\n40 PRINT FN A(1)",
                 "ArithmeticException");

@@ -14,6 +14,9 @@ public final class Promise06MatrixTest {
         check.program("IDN", "10 DIM R(3,3)\n20 MAT R=IDN", "2", "element 2 1 1 -> 1", "element 2 2 2 -> 1", "element 2 3 3 -> 1",
                 "element 2 1 2 -> 0", "element 2 3 1 -> 0");
         check.program("IDN must be square", "10 DIM P(2,3)\n20 MAT P=CON\n30 MAT P=IDN", UNSUPPORTED, "element 0 1 2 -> 1");
+        check.program("gone at the next RUN", "10 IF 1=1 THEN 20\n20 DIM P(1,1)\n30 DIM Q(2,2)\n40 DIM R(3,3)", "4", "element 2 3 3 -> 0",
+                "> 20 END -> 4", "run -> 2", "element 0 1 1 -> IndexOutOfBoundsException",
+                "element 1 1 1 -> IndexOutOfBoundsException", "element 2 1 1 -> IndexOutOfBoundsException");
         check.program("ZER of none", "10 MAT P=ZER", UNSUPPORTED);
         check.program("CON of none", "10 DIM Q(1,1)\n20 MAT P=CON", UNSUPPORTED, "at -> 20");
         check.program("IDN of none", "10 MAT P=IDN", UNSUPPORTED);
