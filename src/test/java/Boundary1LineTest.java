@@ -271,6 +271,9 @@ public final class Boundary1LineTest {
         check.wrongLine("of any length", "1PRINT" + "A+".repeat(23) + "+(((((((", 52);
         check.wrongLine("of any length", "1LETP(" + "A+".repeat(27), 60);
         check.wrongLine("the last of 60 characters", "1PRINT" + "A+".repeat(23) + "B+((((()", 59);
+        check.rightLine("REM and anything", "1REM");
+        check.rightLine("REM and anything", "1REM" + "(".repeat(56));
+        check.wrongLine("REM and anything", "1RE", 3);
         check.wrongLine("nothing behind the end", "1RETURN1", 7);
         check.wrongLine("nothing behind the end", "1RESTOREA", 8);
         check.wrongLine("nothing behind the end", "1END.", 4);
@@ -278,8 +281,50 @@ public final class Boundary1LineTest {
         check.wrongLine("nothing behind the end", "1MATP=P*P*P", 9);
     }
 
+    /** A letter is a VARIABLE unless it begins a name; ON S GOTO has the S and the G of SGN side by side. */
+    private static void names(Check check) {
+        for (String name : new String[] {"ABS", "INT", "SGN", "FNA"}) {
+            check.rightLine("a name", "1PRINT" + name + "(" + name.charAt(0) + ")");
+            check.rightLine("a VARIABLE", "1PRINT" + name.charAt(0));
+            check.wrongLine("a name not at its end", "1PRINT" + name.substring(0, 2), 8);
+            check.wrongLine("a name not at its end", "1PRINT" + name.substring(0, 2) + ")", 8);
+            check.wrongLine("a name without its bracket", "1PRINT" + name, 9);
+            check.wrongLine("a name without its bracket", "1PRINT" + name + "1", 9);
+            check.wrongLine("a name without its e", "1PRINT" + name + "()", 10);
+            check.wrongLine("a name with two e", "1PRINT" + name + "(1,1)", 11);
+        }
+        check.rightLine("ON S GOTO", "1ONSGOTO1");
+        check.rightLine("ON SGN ( S ) GOTO", "1ONSGN(S)GOTO1");
+        check.rightLine("ON ( S ) + S GOTO", "1ON(S)+SGOTO1");
+        check.wrongLine("ON SG, which SGN and S GOTO go on from", "1ONSG", 5);
+        check.wrongLine("ON SG, which SGN and S GOTO go on from", "1ONSGX", 5);
+        check.wrongLine("ON S GO, with no TO", "1ONSGOX", 6);
+        check.wrongLine("ON SGN, with no bracket", "1ONSGNX", 6);
+        check.wrongLine("SG that S GOTO can not go on from", "1ON(SGO", 6);
+        check.wrongLine("SG that S GOTO can not go on from", "1PRINTSGO", 8);
+        check.wrongLine("SG that nothing can go on from", "1ON((((((SG", 10);
+    }
+
+    /** The row that the last line was taken apart in, and the characters behind the end of THE LINE, are used again. */
+    private static void linesAfterOthers(Check check) {
+        String title = "nothing is left of THE LINE before";
+        check.play(title, "> 10PRINTABX -> " + ARGUMENT, "> 10PRINTA -> 1", "run -> 1");
+        check.play(title, "> 10ENDX -> " + ARGUMENT, "> 10EN -> " + ARGUMENT, "errorAt -> 4", "> 10 -> NoSuchElementException");
+        check.play(title, "> 10PRINT1+2 -> 1", "> 10PRINT1+ -> " + ARGUMENT, "errorAt -> 9", "> 10PRINT1 -> 1", "run -> 1", "printed 0 -> 1");
+        check.play(title, "> 10PRINT((((((1+ -> " + ARGUMENT, "errorAt -> 15", "> 10PRINT((((((1)))))) -> 1", "> 20PRINT(((((((1 -> " + ARGUMENT,
+                "errorAt -> 13", "> 20PRINT((((((2)))))) -> 2", "run -> 2", "printed 1 -> 2");
+        check.play(title, "> 10ON1GOTO1,2,3,4, -> " + ARGUMENT, "> 10ON2GOTO20 -> 1", "run -> " + ARGUMENT, "> 20DATA1,2,3,X -> " + ARGUMENT,
+                "> 10DATA5 -> 1", "run -> 1", "count 6 -> 1");
+        check.play(title, "> 10DATA123456.789,- -> " + ARGUMENT, "> 10DATA7 -> 1", "> 20READA -> 2", "run -> 2", "variable 0 -> 7", "count 6 -> 0");
+        check.play(title, "> 10FORI=1TO9STEP-1 -> 1", "> 20END -> 2", "> 10FORI=1TO9 -> 2", "run -> 2", "count 4 -> 1", "variable 8 -> 1");
+        check.play(title, "> 10LETP(1,1)=X -> 1", "> 10LETA=3 -> 1", "> 20READP(1,1) -> 2", "> 20READB -> 2", "> 30DATA4 -> 3", "run -> 3",
+                "variable 0 -> 3", "variable 1 -> 4");
+    }
+
     public static void main(String[] args) {
         Check check = new Check();
+        names(check);
+        linesAfterOthers(check);
         characters(check);
         lengths(check);
         blanks(check);

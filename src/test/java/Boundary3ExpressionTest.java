@@ -197,6 +197,38 @@ public final class Boundary3ExpressionTest {
         check.program("but before its e", "10DEFFNA(X)=1/(4-X)+FNA(X+1)\n20PRINTFNA(1)", STATE);
     }
 
+    private static final String CHAIN = "1DEFFNA(X)=FNB(X)\n2DEFFNB(X)=FNC(X)\n3DEFFNC(X)=X\n4DEFFNC(X)=%\n5DIMP(2,2)\n";
+
+    /** A line may have three FNs under way, and no 4th, wherever its e stands. */
+    private static void chain(Check check, String line, int steps) {
+        String title = "three FNs under way, and not a 4th: " + line;
+        check.program(title, CHAIN.replace("%", "X") + line, "" + steps, "count 7 -> 0");
+        check.program(title, CHAIN.replace("%", "FNC(X)") + line, STATE, "variable 23 -> 0");
+        // The e of a 4th, with 10 more as its argument, would divide by 0.
+        check.program(title, CHAIN.replace("%", "1/(X-11)/(X-12)+FNC(X+10)") + line, STATE, "variable 23 -> 0");
+    }
+
+    private static void underWayAnywhere(Check check) {
+        chain(check, "6LETZ=FNA(1)", 6);
+        chain(check, "6LETP(FNA(1),1)=1", 6);
+        chain(check, "6LETP(1,FNA(2))=1", 6);
+        chain(check, "6LETP(1,2)=FNA(2)", 6);
+        chain(check, "6READP(FNA(1),1)\n7DATA5", 7);
+        chain(check, "6READP(1,FNA(1))\n7DATA5", 7);
+        chain(check, "6PRINTFNA(1)", 6);
+        chain(check, "6PRINTP(FNA(1),FNA(2))", 6);
+        chain(check, "6PRINT1+2*3^FNA(1)", 6);
+        chain(check, "6PRINTFNA(FNA(FNA(1)))", 6);
+        chain(check, "6PRINTABS(INT(SGN(FNA(1))))", 6);
+        chain(check, "6IFFNA(1)=2THEN1", 6);
+        chain(check, "6IF2=FNA(1)THEN1", 6);
+        chain(check, "6ONFNA(1)GOTO7\n7END", 7);
+        chain(check, "6FORI=FNA(1)TO2", 6);
+        chain(check, "6FORI=1TOFNA(1)", 6);
+        chain(check, "6FORI=1TO2STEPFNA(1)", 6);
+        chain(check, "6MATP=(FNA(1))*P", 6);
+    }
+
     private static void arguments(Check check) {
         String title = "then s is as before (also if its e throws)";
         check.program(title, "10LETX=5\n20DEFFNA(X)=X*X\n30PRINTFNA(3)\n40PRINTX", "4", "printed 0 -> 9", "printed 1 -> 5", "variable 23 -> 5");
@@ -265,6 +297,7 @@ public final class Boundary3ExpressionTest {
         wholes(check);
         undefined(check);
         manyUnderWay(check);
+        underWayAnywhere(check);
         arguments(check);
         elements(check);
         noMatrix(check);

@@ -144,7 +144,9 @@ public final class Boundary4RunTest {
                         isOver ? STATE : "2", "count 3 -> " + (isOver ? 0 : 1), "count 4 -> " + (isOver ? 0 : 1), "variable 8 -> " + firsts[k]);
             }
         }
-        check.program("no NEXT behind a FOR that is OVER", "10GOTO30\n20NEXTI\n30FORI=2TO1\n40NEXTJ", STATE, "at -> 30", "variable 8 -> 2", "count 4 -> 0");
+        check.program("no NEXT behind a FOR that is OVER", "10GOTO30\n20NEXTI\n30FORI=2TO1\n40NEXTJ", STATE, "at -> 30", "count 2 -> 2",
+                "variable 8 -> 2", "count 4 -> 0");
+        check.program("the NEXT after the FOR, not the one before", "10GOTO30\n20NEXTI\n30FORI=2TO1\n40NEXTI\n50PRINT50", "3", "printed 0 -> 50", "at -> 50");
         check.program("the first NEXT of this VARIABLE after the FOR", "10GOTO40\n20NEXTI\n30PRINT30\n40FORI=2TO1\n50PRINT50\n60NEXTJ\n70PRINT70\n80NEXTI\n"
                 + "90PRINT90\n100END\n110NEXTI\n120PRINT120", "4", "printed 0 -> 90", "count 3 -> 1");
         check.program("the line behind the FOR is its NEXT", "10FORI=2TO1\n20NEXTI\n30PRINT30", "2", "printed 0 -> 30");
@@ -178,6 +180,23 @@ public final class Boundary4RunTest {
         String falls = "10FORI=0TO-8^20STEP-%\n20IFI<0THEN50\n25FORJ=1TO2\n30LETI=-8^20+&\n40NEXTI\n45END\n50REM";
         check.program(title, falls.replace("%", "128").replace("&", "128"), "7", "variable 8 -> " + -LARGEST, "count 4 -> 1", "at -> 50");
         check.program(title, falls.replace("%", "256").replace("&", "0"), ARITHMETIC, "variable 8 -> " + -LARGEST, "count 4 -> 1", "at -> 40");
+    }
+
+    private static void relations(Check check) {
+        String title = "IF e r e: ";
+        String[] lefts = {"4.999", "5", "5.001"};
+        String[] relations = {"<", "<=", "=", ">=", ">", "<>"};
+        String[] hold = {"100", "110", "010", "011", "001", "101"};
+        for (int k = 0; k < 3; k++) {
+            for (int r = 0; r < relations.length; r++) {
+                boolean isSo = hold[r].charAt(k) == '1';
+                check.program(title + lefts[k] + relations[r] + "5", "10IF" + lefts[k] + relations[r] + "5THEN30\n20PRINT20\n30PRINT30",
+                        isSo ? "2" : "3", "printed 0 -> " + (isSo ? 30 : 20));
+            }
+        }
+        check.program(title + "0 and -0", "10IF0=-0THEN30\n20PRINT20\n30PRINT30", "2");
+        check.program(title + "2^60 and the double below it", "10IF8^20>8^20-128THEN30\n20PRINT20\n30PRINT30", "2");
+        check.program(title + "2^60 and the double below it", "10IF8^20=8^20-64THEN30\n20PRINT20\n30PRINT30", "2");
     }
 
     private static void orderOfFor(Check check) {
@@ -232,6 +251,7 @@ public final class Boundary4RunTest {
         loops(check);
         over(check);
         nexts(check);
+        relations(check);
         orderOfFor(check);
         steps(check);
         numbers(check);

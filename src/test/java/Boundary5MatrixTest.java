@@ -39,6 +39,9 @@ public final class Boundary5MatrixTest {
                 check.program("DIM once more", "5DIMQ(3,3)\n6MATQ=CON\n" + dim, "3", filledWith(1, rows, columns, "0"));
                 check.program("CON: 1", dim + "20MATQ=CON", "2", filledWith(1, rows, columns, "1"));
                 check.program("ZER: 0", dim + "20MATQ=CON\n30MATQ=ZER", "3", filledWith(1, rows, columns, "0"));
+                check.program("ZER: 0, behind a MAT of another size", "5DIMP(4,5)\n" + dim + "20LETQ(" + rows + "," + columns + ")=3\n30MATP=CON\n40MATQ=ZER", "5",
+                        filledWith(1, rows, columns, "0"));
+                check.program("CON: 1, behind a MAT of another size", "5DIMP(4,5)\n" + dim + "30MATP=ZER\n40MATQ=CON", "4", filledWith(1, rows, columns, "1"));
                 check.program("IDN: square", dim + "20MATQ=CON\n30MATQ=IDN\n40REM", rows == columns ? "4" : UNSUPPORTED,
                         rows == columns ? unit(rows) : filledWith(1, rows, columns, "1"));
                 check.program("m", "5DIMP(2,3)\n" + dim + "20MATQ=CON\n30MATP=Q", "4", filledWith(0, rows, columns, "1"));
@@ -123,7 +126,9 @@ public final class Boundary5MatrixTest {
             check.program("the first need not be there", "10DIM" + NAMES[(first + 1) % 3] + "(1,2)\n20MAT" + NAMES[first] + "=" + NAMES[(first + 1) % 3],
                     "2", filledWith(first, 1, 2, "0"));
         }
-        check.program("a RUN begins with no MATRICES", "10DIMP(1,1)\n20MATP=ZER", "2", "> 10REM -> 2", "run -> " + UNSUPPORTED);
+        for (String m : NAMES) {
+            check.program("a RUN begins with no MATRICES", "10DIM" + m + "(1,1)\n20MAT" + m + "=ZER", "2", "> 10REM -> 2", "run -> " + UNSUPPORTED);
+        }
     }
 
     private static void refuse(Check check, String title, String dims, String mat, int absent) {
