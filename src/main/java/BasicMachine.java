@@ -880,8 +880,12 @@ public final class BasicMachine {
             return value;
         }
 
-        /** An expression of a line; a STEP's own expressions have no FN under way. */
-        double evaluate(Line line, int expression, int underWay) {
+        /** An expression of a STEP's line: no FN is under way yet. */
+        double workOut(Line line, int expression) {
+            return evaluate(line, expression, 0);
+        }
+
+        private double evaluate(Line line, int expression, int underWay) {
             int end = Math.min(line.endOf(expression), line.operations.length);
             for (int k = line.startOf(expression); k < end && isFine(); k++) {
                 apply(line.operations[k], line.operands[k], underWay);
@@ -982,7 +986,7 @@ public final class BasicMachine {
         }
 
         /** Does a MAT. */
-        void work(Line line) {
+        void mat(Line line) {
             Matrix first = matrixAt(line.letter);
             Matrix left = matrixAt(line.numberAt(0));
             Matrix right = matrixAt(line.numberAt(1));
@@ -990,7 +994,7 @@ public final class BasicMachine {
                 fail(Fault.UNSUPPORTED);
                 return;
             }
-            double factor = line.form == Form.SCALE ? evaluate(line, 0, 0) : 0;
+            double factor = line.form == Form.SCALE ? workOut(line, 0) : 0;
             shapeDraft(line.form, first, left, right);
             for (int i = 1; i <= draft.rows; i++) {
                 for (int j = 1; j <= draft.columns; j++) {
@@ -1157,8 +1161,8 @@ public final class BasicMachine {
 
         private void perform(Line line) {
             switch (line.statement) {
-                case LET: let(line); break;
-                case PRINT: print(calculator.evaluate(line, 0, 0)); break;
+                case LET: let(line, targetPlace(line)); break;
+                case PRINT: print(calculator.workOut(line, 0)); break;
                 case IF: goIf(line); break;
                 case GOTO: goTo(line.numberAt(0)); break;
                 case ON: goToChosen(line); break;
@@ -1166,29 +1170,14 @@ public final class BasicMachine {
                 case RETURN: goBack(); break;
                 case FOR: beginLoop(line); break;
                 case NEXT: endLoop(line.letter); break;
-                case READ: read(line); break;
+                case READ: read(line, targetPlace(line)); break;
                 case RESTORE: dataRead = 0; break;
                 case DIM: calculator.matrixAt(line.letter).shape(line.numberAt(0), line.numberAt(1)); break;
                 case DEF: calculator.define(line.function, line); break;
-                case MAT: calculator.work(line); break;
+                case MAT: calculator.mat(line); break;
                 case END: due = program.size; break;
                 default: break;
             }
-        }
-
-        private void let(Line line) {
-            int place = targetPlace(line);
-            store(line, place, calculator.evaluate(line, line.isElement ? 2 : 0, 0));
-        }
-
-        private void read(Line line) {
-            int place = targetPlace(line);
-            if (dataRead >= dataTotal || dataRead >= data.length) {
-                calculator.fail(Fault.MISSING);
-                return;
-            }
-            store(line, place, data[dataRead]);
-            dataRead += calculator.isFine() ? 1 : 0;
         }
 
         /** Where the element to be set is held in its MATRIX; for a VARIABLE there is nothing to look for. */
@@ -1196,13 +1185,26 @@ public final class BasicMachine {
             if (!line.isElement) {
                 return 0;
             }
-            double row = calculator.evaluate(line, 0, 0);
-            double column = calculator.evaluate(line, 1, 0);
+            double row = calculator.workOut(line, 0);
+            double column = calculator.workOut(line, 1);
             int place = calculator.matrixAt(line.letter).placeOf((long) row, (long) column);
             if (place < 0) {
                 calculator.fail(Fault.BOUNDS);
             }
             return place;
+        }
+
+        private void let(Line line, int place) {
+            store(line, place, calculator.workOut(line, line.isElement ? 2 : 0));
+        }
+
+        private void read(Line line, int place) {
+            if (dataRead >= dataTotal || dataRead >= data.length) {
+                calculator.fail(Fault.MISSING);
+                return;
+            }
+            store(line, place, data[dataRead]);
+            dataRead += calculator.isFine() ? 1 : 0;
         }
 
         private void store(Line line, int place, double value) {
@@ -1236,8 +1238,8 @@ public final class BasicMachine {
         }
 
         private void goIf(Line line) {
-            double left = calculator.evaluate(line, 0, 0);
-            double right = calculator.evaluate(line, 1, 0);
+            double left = calculator.workOut(line, 0);
+            double right = calculator.workOut(line, 1);
             int is = left < right ? Line.LESS : left > right ? Line.GREATER : Line.EQUAL;
             if (calculator.isFine() && (line.relation & is) != 0) {
                 goTo(line.numberAt(0));
@@ -1245,7 +1247,7 @@ public final class BasicMachine {
         }
 
         private void goToChosen(Line line) {
-            long choice = (long) calculator.evaluate(line, 0, 0);
+            long choice = (long) calculator.workOut(line, 0);
             if (!calculator.isFine()) {
                 return;
             }
@@ -1278,9 +1280,9 @@ public final class BasicMachine {
         }
 
         private void beginLoop(Line line) {
-            double first = calculator.evaluate(line, 0, 0);
-            double limit = calculator.evaluate(line, 1, 0);
-            double step = line.expressionTotal > 2 ? calculator.evaluate(line, 2, 0) : 1;
+            double first = calculator.workOut(line, 0);
+            double limit = calculator.workOut(line, 1);
+            double step = line.expressionTotal > 2 ? calculator.workOut(line, 2) : 1;
             if (!calculator.isFine()) {
                 return;
             }

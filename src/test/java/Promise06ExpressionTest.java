@@ -108,6 +108,20 @@ public final class Promise06ExpressionTest {
         check.program("another MATRIX", lines + "40 PRINT Q(1,1)", "IndexOutOfBoundsException");
     }
 
+    private static void waitingOperands(Check check) {
+        check.value("9-3*2^(" + "2-1*2^(".repeat(5) + "1" + ")".repeat(6), "6");
+        check.value("4+3-2*1^(".repeat(5) + "1" + ")".repeat(5), "5");
+        check.program("the first index waits", "10DIMP(2,2)\n20LETP(1,2)=2\n30PRINT5-2*P(1,2-1*P(1,3-1*P(1,2-1*P(1,1))))", "3", "printed 0 -> 1");
+    }
+
+    /** Of what a STEP worked out nothing is left behind, for the 300th either. */
+    private static void manyExpressions(Check check) {
+        check.program("many elements", "10 DIM P(2,2)\n20 FOR I=1 TO 99\n30 LET P(1,1)=P(1,1)+I\n40 LET P(1+1,2)=P(1,1)-1\n50 NEXT I\n60 PRINT P(2,2)+P(1,1)*2",
+                "300", "printed 0 -> 14849", "count 7 -> 0");
+        check.program("many relations", "10 IF 1+2*A<0-1 THEN 99\n20 IF 2*A+1>1^20*A*2+1 THEN 99\n30 LET A=A+1\n40 IF A*2+1<>2*70+1 THEN 10\n50 PRINT A*2-1",
+                "281", "printed 0 -> 139");
+    }
+
     public static void main(String[] args) {
         Check check = new Check();
         order(check);
@@ -116,6 +130,8 @@ public final class Promise06ExpressionTest {
         limits(check);
         powers(check);
         elements(check);
+        waitingOperands(check);
+        manyExpressions(check);
         check.finish();
     }
 }

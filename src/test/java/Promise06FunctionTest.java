@@ -1,5 +1,15 @@
 /** DEF FN and FN. */
 public final class Promise06FunctionTest {
+    /** As many operands that wait as 60 characters and 6 brackets let stand, and three FNs more with as many. */
+    private static void waitingOperands(Check check) {
+        String fiveWait = "2-1*2^(".repeat(5);
+        String close = ")".repeat(5);
+        check.program("operands wait in all that is under way",
+                "1DEFFNA(X)=" + fiveWait + "FNB(X)" + close + "\n2DEFFNB(X)=" + fiveWait + "FNC(X)" + close
+                        + "\n3DEFFNC(X)=" + fiveWait + "2-1*2^(X)" + close + "\n4PRINT9-" + fiveWait + "FNA(1)" + close + "\n5PRINT8-FNA(1)",
+                "5", "printed 0 -> 5", "printed 1 -> 7");
+    }
+
     public static void main(String[] args) {
         Check check = new Check();
         check.program("a FN", "10 DEF FN A(X)=X*X-1\n20 LET X=-3\n30 PRINT FN A(4)\n40 PRINT X\n50 PRINT FNA(X+1)+X", "5",
@@ -33,6 +43,7 @@ public final class Promise06FunctionTest {
         check.program("a loop's VARIABLE as s", "10 DEF FN A(I)=I*2\n20 FOR I=1 TO FN A(1)\n30 PRINT FN A(I+1)\n40 NEXT I", "6",
                 "printed 0 -> 4", "printed 1 -> 6", "variable 8 -> 3");
         check.program("in an element's place", "10 DEF FN A(X)=X+1\n20 DIM P(2,3)\n30 LET P(FNA(1),FNA(FNA(1)))=4", "3", "element 0 2 3 -> 4");
+        waitingOperands(check);
         check.finish();
     }
 }
